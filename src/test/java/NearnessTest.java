@@ -64,6 +64,9 @@ public final class NearnessTest {
             Due.same("within(0, 0, " + reach + ")", x.within(0, 0, reach), reachAndCount[i + 1]);
         }
         Due.same("within without a point there", x.within(3, 3, 0), 0);
+        Due.same("within(3, 4, 0)", x.within(3, 4, 0), 1);
+        Due.same("within(2, 5, 4)", x.within(2, 5, 4), 2);
+        Due.same("within(2, 5, 3)", x.within(2, 5, 3), 1);
         Due.same("within(31, 0, 961)", x.within(31, 0, 961), 4);
         Due.same("within(31, 0, 960)", x.within(31, 0, 960), 2);
         Due.same("within without points", new GridFileIndex().within(0, 0, MAX), 0);

@@ -93,6 +93,12 @@ public final class QuestionsTest {
         rectangle(x, Make.at(0, 2), Make.at(31, 2), 2, 4001, 4000);
         rectangle(x, Make.at(7, 7), Make.at(31, 30), 0, 0, MIN);
         rectangle(new GridFileIndex(), 0, 1023, 0, 0, MIN);
+        x.put(31, 30, 70000);
+        x.put(31, 31, 80000);
+        x.remove(31, 31);
+        rectangle(x, 0, 1023, 7, 124314, 70000);
+        x.clear(Make.at(1, 1), 1023);
+        rectangle(x, 0, 1023, 1, -7, -7);
     }
 
     private static void sumWraps() {
