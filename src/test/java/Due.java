@@ -1,21 +1,38 @@
 /** Counts the answers that are not the ones due. */
 final class Due {
+    /** One cause can make thousands of answers wrong: the first ones tell enough. */
+    private static final int MOST_SHOWN = 100;
+
     private static int wrong = 0;
+    private static int shown = 0;
+    private static String sentence = "";
 
     private Due() {
     }
 
+    /** What follows is a test of this sentence of the document, until the next one is named. */
+    static void sentence(String section, String words) {
+        sentence = "[" + section + ": \"" + words + "\"] ";
+        shown = 0;
+    }
+
+    private static void wrong(String what) {
+        wrong++;
+        shown++;
+        if (shown <= MOST_SHOWN) {
+            System.out.println(sentence + what);
+        }
+    }
+
     static void same(String call, long got, long want) {
         if (got != want) {
-            wrong++;
-            System.out.println(call + " answered " + got + ", due is " + want);
+            wrong(call + " answered " + got + ", due is " + want);
         }
     }
 
     static void yes(String what, boolean holds) {
         if (!holds) {
-            wrong++;
-            System.out.println("does not hold: " + what);
+            wrong("does not hold: " + what);
         }
     }
 
