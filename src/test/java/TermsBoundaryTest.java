@@ -11,6 +11,7 @@ public final class TermsBoundaryTest {
 
     public static void main(String[] args) {
         callsUpToTheLast();
+        everyCallAsTheLast();
         places();
         onePointAtAPlace();
         values();
@@ -38,6 +39,28 @@ public final class TermsBoundaryTest {
             Due.same("call " + (call + 1) + ": size()", x.size(), 39);
             Due.same("call " + (call + 2) + ": put(0, 0, " + call + ")", x.put(0, 0, call), 1);
             Due.same("call " + (call + 3) + ": valueAt(0, 0)", x.valueAt(0, 0), call);
+        }
+    }
+
+    /** The 512th call is promised like the first, whichever it is. */
+    private static void everyCallAsTheLast() {
+        Due.sentence("What it is", "An object is used for at most 512 calls after it has been made");
+        int[] points = Boundary.FORTY;
+        Call[] calls = {
+            Call.put(0, 0, 4), Call.put(0, 1, 4), Call.remove(31, 31), Call.clear(0, 1023), Call.move(0, 1),
+            Call.scatter(0, Make.walk(0, 0, 40), 4), Call.size(), Call.has(31, 31), Call.valueAt(31, 31),
+            Call.count(0, 1023), Call.sum(0, 1023), Call.most(0, 1023), Call.point(0, 1023, 39),
+            Call.nearest(31, 31), Call.within(0, 0, MAX), Call.closest(), Call.line(0, 31), Call.frontier(),
+        };
+        int[] due = {
+            0, -2, 0, 40, 0, 40, 40, 1, points[79], 40, 40 * 1000 - 37 * 780, 1000, 1023, 1023, 40, 25, 2, 1,
+        };
+        for (int i = 0; i < calls.length; i++) {
+            GridFileIndex x = Boundary.holding(points);
+            for (int call = 41; call < 512; call++) {
+                Due.same("call " + call + ": put(0, 0, " + points[1] + ")", x.put(0, 0, points[1]), 0);
+            }
+            Due.same("call 512: " + calls[i].text(), calls[i].on(x), due[i]);
         }
     }
 
